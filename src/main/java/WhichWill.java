@@ -70,11 +70,12 @@ public final class WhichWill {
     }
 
     public int estate() {
-        boolean isRead = matter.readEstate(tape);
+        boolean isRead = matter.draft.readText(tape);
         keepFault();
         if (!isRead) {
             return NONE;
         }
+        matter.takeDraft();
         stories.told = 0;
         return matter.estate.clauses;
     }
@@ -84,9 +85,14 @@ public final class WhichWill {
             tape.empty();
             return FULL;
         }
-        boolean isRead = matter.readPaper(tape);
+        int paper = matter.papersTold;
+        boolean isRead = matter.papers[paper].readText(tape, matter.estate, paper);
         keepFault();
-        return isRead ? matter.papersTold - 1 : NONE;
+        if (!isRead) {
+            return NONE;
+        }
+        matter.takePaper();
+        return paper;
     }
 
     public int fault(int what) {
@@ -209,23 +215,21 @@ public final class WhichWill {
         if (!isPaper(paper) || !isLand(land)) {
             return RANGE;
         }
-        return matter.isGood(paper, land, 0) ? 1 : 0;
+        return matter.papers[paper].isGoodBy(matter.estate, land, 0) ? 1 : 0;
     }
 
     public int counts(int way, int land) {
         if (!isWay(way) || !isLand(land)) {
             return RANGE;
         }
-        shares.takeWay(way);
-        return shares.standingBy(land).counting;
+        return shares.standingIn(way, land).counting;
     }
 
     public int undone(int paper, int way, int land) {
         if (!isPaper(paper) || !isWay(way) || !isLand(land)) {
             return RANGE;
         }
-        shares.takeWay(way);
-        return shares.standingBy(land).undoneBy[paper];
+        return shares.standingIn(way, land).undoneBy[paper];
     }
 
     public int ways() {
@@ -236,7 +240,7 @@ public final class WhichWill {
         if (!isThing(thing) || !isWay(way)) {
             return RANGE;
         }
-        shares.takeWay(way);
+        shares.takeWayFor(thing, way);
         shares.partThing(thing);
         return shares.gettersOfParts();
     }
@@ -245,7 +249,7 @@ public final class WhichWill {
         if (!isThing(thing) || !isWay(way)) {
             return RANGE;
         }
-        shares.takeWay(way);
+        shares.takeWayFor(thing, way);
         return shares.partThing(thing);
     }
 
@@ -298,7 +302,7 @@ public final class WhichWill {
             if ((way & (FACT_ROWS - 1) & unused) != 0) {
                 continue;
             }
-            shares.takeWay(way);
+            shares.takeWayFor(thing, way);
             shares.partThing(thing);
             int getters = shares.gettersOfParts();
             if (all != NONE && all != getters) {
@@ -359,7 +363,11 @@ public final class WhichWill {
         if (story < 0 || story >= stories.told) {
             return NO_STORY;
         }
-        return matter.waysFound() == 0 ? NONE : stories.gainBy(story);
+        if (matter.waysFound() == 0) {
+            return NONE;
+        }
+        outcomes.bringUpToDate();
+        return stories.gainBy(story);
     }
 
     public int settle() {
@@ -541,6 +549,7 @@ public final class WhichWill {
             }
         }
 
+        /** Reads the next TOKEN; behind a FAULT none. */
         void step() {
             if (faultKind != 0) {
                 return;
@@ -549,42 +558,28 @@ public final class WhichWill {
                 next++;
             }
             from = next;
-            if (next >= length) {
-                kind = END;
-            } else if (isLetter(bytes[next])) {
-                readWord();
-            } else if (isDigit(bytes[next])) {
-                readNumber();
-            } else {
-                kind = bytes[next] == ';' ? MARK : OTHER;
-                next++;
-            }
-        }
-
-        private void readWord() {
             code = 0;
-            while (next < length && isLetter(bytes[next])) {
+            while (next < length && bytes[next] >= 'a' && bytes[next] <= 'z') {
                 code = (code << 5) + (bytes[next] - 'a' + 1);
                 next++;
             }
-            kind = next - from <= MOST_LETTERS ? WORD : OTHER;
-        }
-
-        private void readNumber() {
+            if (next > from) {
+                kind = next - from <= MOST_LETTERS ? WORD : OTHER;
+                return;
+            }
             value = 0;
-            while (next < length && isDigit(bytes[next])) {
+            while (next < length && bytes[next] >= '0' && bytes[next] <= '9') {
                 value = value * 10 + (bytes[next] - '0');
                 next++;
             }
-            kind = next - from <= MOST_DIGITS ? NUMBER : OTHER;
-        }
-
-        private static boolean isLetter(int sign) {
-            return sign >= 'a' && sign <= 'z';
-        }
-
-        private static boolean isDigit(int sign) {
-            return sign >= '0' && sign <= '9';
+            if (next > from) {
+                kind = next - from <= MOST_DIGITS ? NUMBER : OTHER;
+            } else if (next < length) {
+                kind = bytes[next] == ';' ? MARK : OTHER;
+                next++;
+            } else {
+                kind = END;
+            }
         }
 
         boolean is(String word) {
@@ -609,9 +604,27 @@ public final class WhichWill {
         }
 
         void need(String word) {
-            if (!passes(word)) {
+            if (is(word)) {
+                step();
+            } else {
                 fail(SYNTAX);
             }
+        }
+
+        /** Goes over one of four words (an empty one never stands) and answers which it was. */
+        int chosen(String first, String second, String third, String fourth) {
+            int which = 0;
+            if (is(second)) {
+                which = 1;
+            } else if (is(third)) {
+                which = 2;
+            } else if (is(fourth)) {
+                which = 3;
+            } else if (!is(first)) {
+                fail(SYNTAX);
+            }
+            step();
+            return which;
         }
 
         void needMark() {
@@ -725,15 +738,12 @@ public final class WhichWill {
         static final int GAIN_VOID = 1;
         static final int GAIN_GIFT = 2;
 
-        static final int OWN = 0;
         static final int THERE = 1;
         static final int AT_HOME = 2;
         static final int AT_BIRTH = 3;
 
-        static final int ROLE_WIFE = 0;
         static final int ROLE_CHILD = 1;
         static final int ROLE_KIN = 2;
-        static final int ROLE_FRIEND = 3;
 
         final Names lands = new Names(MOST_LANDS);
         final Names people = new Names(MOST_PEOPLE);
@@ -903,31 +913,11 @@ public final class WhichWill {
                 case SEEN: return tape.number(0, 3);
                 case WIFE: return tape.number(0, 100);
                 case FORCE: return tape.number(0, 90);
-                case GAIN: return readGain(tape);
-                case HOUSE: return readNaming(tape, true);
-                case MOVE: return readNaming(tape, false);
+                case GAIN: return GAIN_VOID + tape.chosen("void", "gift", "", "");
+                case HOUSE: return tape.chosen("own", "there", "home", "born");
+                case MOVE: return tape.chosen("own", "", "home", "born");
                 default: return 1;
             }
-        }
-
-        private static int readGain(Tape tape) {
-            if (tape.passes("void")) {
-                return GAIN_VOID;
-            }
-            tape.need("gift");
-            return GAIN_GIFT;
-        }
-
-        private static int readNaming(Tape tape, boolean isHouse) {
-            if (tape.passes("own")) {
-                return OWN;
-            } else if (isHouse && tape.passes("there")) {
-                return THERE;
-            } else if (tape.passes("home")) {
-                return AT_HOME;
-            }
-            tape.need("born");
-            return AT_BIRTH;
         }
 
         private void readPerson(Tape tape) {
@@ -954,16 +944,12 @@ public final class WhichWill {
                     tape.fail(Tape.TWICE);
                 }
                 wife = person;
-                tape.step();
-                return ROLE_WIFE;
-            } else if (tape.passes("child")) {
-                return ROLE_CHILD;
-            } else if (tape.passes("kin")) {
-                parents[person] = tape.known(people, 0);
-                return ROLE_KIN;
             }
-            tape.need("friend");
-            return ROLE_FRIEND;
+            int role = tape.chosen("wife", "child", "kin", "friend");
+            if (role == ROLE_KIN) {
+                parents[person] = tape.known(people, 0);
+            }
+            return role;
         }
 
         private void readThing(Tape tape) {
@@ -1012,10 +998,6 @@ public final class WhichWill {
 
         int ruleOf(int land, int what) {
             return rules[land * RULES + what];
-        }
-
-        boolean hasRule(int land, int what) {
-            return ruleOf(land, what) != 0;
         }
 
         int moneyThereIs() {
@@ -1239,10 +1221,10 @@ public final class WhichWill {
             boolean isSigned = isMarked(SIGNED) || (changes & Mender.SIGN) != 0;
             boolean isByHand = isMarked(HAND) || (changes & Mender.BY_HAND) != 0;
             boolean isInPencil = isMarked(PENCIL) && (changes & Mender.NOT_IN_PENCIL) == 0;
-            if (!isSigned || isInPencil && !estate.hasRule(land, Estate.PENCIL)) {
+            if (!isSigned || isInPencil && estate.ruleOf(land, Estate.PENCIL) == 0) {
                 return false;
             }
-            if (isByHand && estate.hasRule(land, Estate.HAND)) {
+            if (isByHand && estate.ruleOf(land, Estate.HAND) != 0) {
                 return true;
             }
             boolean isGainVoid = estate.ruleOf(land, Estate.GAIN) == Estate.GAIN_VOID;
@@ -1253,11 +1235,11 @@ public final class WhichWill {
             return counted >= estate.ruleOf(land, Estate.SEEN);
         }
 
-        boolean isIfSo(int gift, Estate estate, int facts) {
+        boolean isIfSo(int gift, int dead, int facts) {
             int which = giftIfWhich[gift];
             switch (giftIf[gift]) {
-                case IF_DEAD: return estate.isDead(which);
-                case IF_ALIVE: return !estate.isDead(which);
+                case IF_DEAD: return (dead >> which & 1) != 0;
+                case IF_ALIVE: return (dead >> which & 1) == 0;
                 case IF_SO: return (facts >> which & 1) != 0;
                 case IF_NOT: return (facts >> which & 1) == 0;
                 default: return true;
@@ -1305,7 +1287,7 @@ public final class WhichWill {
         // Told up with each change: what was worked out for another number is out of date.
         int changes;
         // A text with a FAULT must leave the ESTATE as it is, so texts are read into this one.
-        private Estate draft = new Estate();
+        Estate draft = new Estate();
         // Each ORDER as one number, three bits an ITEM, the first lowest.
         private final int[] rows = new int[MOST_ORDERS];
         private final int[] row = new int[MOST_ITEMS];
@@ -1320,29 +1302,22 @@ public final class WhichWill {
             ordersFound = 1;
         }
 
-        boolean readEstate(Tape tape) {
-            if (!draft.readText(tape)) {
-                return false;
-            }
+        /** The text that was read into the draft holds; nothing else that was told does. */
+        void takeDraft() {
             Estate old = estate;
             estate = draft;
             draft = old;
             papersTold = 0;
             eventsTold = 0;
             findOrders();
-            return true;
         }
 
-        boolean readPaper(Tape tape) {
-            if (papersTold >= MOST_PAPERS) {
-                return false;
+        /** The text that was read behind the PAPERS told is one of them. */
+        void takePaper() {
+            if (papersTold < MOST_PAPERS) {
+                papersTold++;
+                findOrders();
             }
-            if (!papers[papersTold].readText(tape, estate, papersTold)) {
-                return false;
-            }
-            papersTold++;
-            findOrders();
-            return true;
         }
 
         void addEvent(int kind, int paper, int first, int last, int fact) {
@@ -1377,10 +1352,6 @@ public final class WhichWill {
                 used |= events[i].fact < 0 ? 0 : 1 << events[i].fact;
             }
             return used;
-        }
-
-        boolean isGood(int paper, int land, int changesToIt) {
-            return papers[paper].isGoodBy(estate, land, changesToIt);
         }
 
         int itemAt(int order, int i) {
@@ -1456,8 +1427,9 @@ public final class WhichWill {
                 other--;
             }
             swapInRow(turn, other);
-            for (int low = turn + 1, high = items - 1; low < high; low++, high--) {
-                swapInRow(low, high);
+            int behind = items - 1 - turn;
+            for (int i = 0; i < behind / 2; i++) {
+                swapInRow(turn + 1 + i, items - 1 - i);
             }
             return true;
         }
@@ -1471,10 +1443,18 @@ public final class WhichWill {
 
     /** Which PAPERS stand in a WAY by one land's law. */
     private static final class Standing {
+        // What an EVENT does by this law.
+        private static final int NOTHING = 0;
+        private static final int UNDO = 1;
+        private static final int PART = 2;
+        private static final int TAKE_AWAY = 3;
+
         final int[] undoneBy = new int[MOST_PAPERS];
         int counting;
         private final Matter matter;
-        private int land;
+        private final int[] effects = new int[MOST_EVENTS];
+        private boolean isWaking;
+        private boolean isVoidForWitnesses;
         private int good;
         private int undoingAll;
         private int came;
@@ -1487,12 +1467,34 @@ public final class WhichWill {
         }
 
         void setLaw(int land) {
-            this.land = land;
+            Estate estate = matter.estate;
+            isWaking = estate.ruleOf(land, Estate.WAKE) != 0;
+            isVoidForWitnesses = estate.ruleOf(land, Estate.GAIN) == Estate.GAIN_GIFT;
+            for (int event = 0; event < matter.eventsTold; event++) {
+                effects[event] = effectOf(matter.events[event].kind, land);
+            }
             good = 0;
             undoingAll = 0;
             for (int paper = 0; paper < matter.papersTold; paper++) {
-                good |= matter.isGood(paper, land, 0) ? 1 << paper : 0;
-                undoingAll |= matter.papers[paper].undoesAll ? 1 << paper : 0;
+                Paper told = matter.papers[paper];
+                good |= told.isGoodBy(estate, land, 0) ? 1 << paper : 0;
+                undoingAll |= told.undoesAll ? 1 << paper : 0;
+            }
+        }
+
+        private int effectOf(int kind, int land) {
+            Estate estate = matter.estate;
+            switch (kind) {
+                case Event.WEDDING:
+                    return estate.ruleOf(land, Estate.WED) != 0 ? UNDO : NOTHING;
+                case Event.PARTING:
+                    return estate.ruleOf(land, Estate.PART) != 0 ? PART : NOTHING;
+                case Event.TORN_UNMEANT:
+                    return estate.ruleOf(land, Estate.TEAR) != 0 ? TAKE_AWAY : NOTHING;
+                case Event.LOST:
+                    return estate.ruleOf(land, Estate.LOST) != 0 ? TAKE_AWAY : NOTHING;
+                default:
+                    return TAKE_AWAY;
             }
         }
 
@@ -1508,13 +1510,21 @@ public final class WhichWill {
             stands = 0;
             parted = 0;
             Arrays.fill(undoneBy, NONE);
+            int papers = matter.papersTold;
             int items = matter.itemsTold();
             for (int i = 0; i < items; i++) {
                 int item = matter.itemAt(order, i);
-                if (item < matter.papersTold) {
+                if (item < papers) {
                     putPaper(item);
-                } else {
-                    putEvent(item, facts);
+                } else if (matter.events[item - papers].isSo(facts)) {
+                    int effect = effects[item - papers];
+                    if (effect == UNDO) {
+                        undo(stands, item);
+                    } else if (effect == PART) {
+                        parted |= stands;
+                    } else if (effect == TAKE_AWAY) {
+                        takeAway(matter.events[item - papers].paper, item);
+                    }
                 }
             }
             findCounting();
@@ -1528,42 +1538,8 @@ public final class WhichWill {
             }
             stands |= bit;
             Paper told = matter.papers[paper];
-            int others = (undoingAll & bit) != 0 ? ~bit : told.undoes & ~bit;
-            undo(others, paper);
-            raise(told.wakes & good & came & ~bit);
-        }
-
-        private void putEvent(int item, int facts) {
-            Event event = matter.events[item - matter.papersTold];
-            if (!event.isSo(facts)) {
-                return;
-            }
-            Estate estate = matter.estate;
-            switch (event.kind) {
-                case Event.WEDDING:
-                    if (estate.hasRule(land, Estate.WED)) {
-                        undo(stands, item);
-                    }
-                    break;
-                case Event.PARTING:
-                    if (estate.hasRule(land, Estate.PART)) {
-                        parted |= stands;
-                    }
-                    break;
-                case Event.TORN:
-                    takeAway(event.paper, item);
-                    break;
-                case Event.TORN_UNMEANT:
-                    if (estate.hasRule(land, Estate.TEAR)) {
-                        takeAway(event.paper, item);
-                    }
-                    break;
-                default:
-                    if (estate.hasRule(land, Estate.LOST)) {
-                        takeAway(event.paper, item);
-                    }
-                    break;
-            }
+            undo((undoingAll & bit) != 0 ? ~bit : told.undoes, paper);
+            raise(told.wakes & good & came);
         }
 
         private void undo(int papers, int item) {
@@ -1589,13 +1565,14 @@ public final class WhichWill {
                 return;
             }
             undo(1 << paper, item);
-            if (matter.estate.hasRule(land, Estate.WAKE)) {
-                for (int other = 0; other < MOST_PAPERS; other++) {
-                    if (undoneBy[other] == paper) {
-                        raise(1 << other);
-                    }
-                }
+            if (!isWaking) {
+                return;
             }
+            int woken = 0;
+            for (int other = 0; other < MOST_PAPERS; other++) {
+                woken |= undoneBy[other] == paper ? 1 << other : 0;
+            }
+            raise(woken);
         }
 
         private void findCounting() {
@@ -1615,10 +1592,7 @@ public final class WhichWill {
 
         /** PEOPLE whose parts of a paper are VOID, as bits. */
         int voidOf(int paper) {
-            int people = 0;
-            if (matter.estate.ruleOf(land, Estate.GAIN) == Estate.GAIN_GIFT) {
-                people = matter.papers[paper].witnesses;
-            }
+            int people = isVoidForWitnesses ? matter.papers[paper].witnesses : 0;
             if ((parted >> paper & 1) != 0 && matter.estate.wife >= 0) {
                 people |= 1 << matter.estate.wife;
             }
@@ -1644,10 +1618,10 @@ public final class WhichWill {
         private final int[] payees = new int[MOST_PAPERS * MOST_GIFTS];
         private int paysFound;
         private int movesLaw;
+        // LANDS whose law holds for anything, as bits.
+        private int lawsInUse;
         private int order;
         private int facts;
-        // LANDS by whose law this WAY has been run, as bits.
-        private int runLands;
         private int preparedFor = NONE;
 
         Shares(Matter matter) {
@@ -1657,14 +1631,35 @@ public final class WhichWill {
             }
         }
 
-        /** To be called only with a WAY that there is. */
+        /** Runs a WAY that there is by all laws that hold for anything. */
         void takeWay(int way) {
+            setWay(way);
+            for (int land = 0; land < MOST_LANDS; land++) {
+                if ((lawsInUse >> land & 1) != 0) {
+                    standings[land].run(order, facts);
+                }
+            }
+        }
+
+        /** Runs a WAY that there is by the law for one thing alone. */
+        void takeWayFor(int thing, int way) {
+            setWay(way);
+            standings[laws[thing]].run(order, facts);
+        }
+
+        /** Runs a WAY that there is by the law of one land alone. */
+        Standing standingIn(int way, int land) {
+            setWay(way);
+            standings[land].run(order, facts);
+            return standings[land];
+        }
+
+        private void setWay(int way) {
             if (preparedFor != matter.changes) {
                 prepare();
             }
             order = way / FACT_ROWS;
             facts = way % FACT_ROWS;
-            runLands = 0;
         }
 
         private void prepare() {
@@ -1672,14 +1667,16 @@ public final class WhichWill {
             for (int land = 0; land < estate.lands.size; land++) {
                 standings[land].setLaw(land);
             }
+            movesLaw = estate.lawAndRing(NONE) >> 1;
+            lawsInUse = 1 << movesLaw;
             for (int thing = 0; thing < estate.things.size; thing++) {
                 laws[thing] = estate.lawAndRing(thing) >> 1;
+                lawsInUse |= 1 << laws[thing];
             }
-            movesLaw = estate.lawAndRing(NONE) >> 1;
             preparedFor = matter.changes;
         }
 
-        /** Has a paper stand otherwise by the law for a thing, until all is prepared anew. */
+        /** Has a paper stand otherwise by the law for a thing, until that is forgotten. */
         void mendFor(int thing, int paper, boolean isGood, boolean isUndoingAll) {
             prepare();
             standings[laws[thing]].setMended(paper, isGood, isUndoingAll);
@@ -1689,26 +1686,16 @@ public final class WhichWill {
             preparedFor = NONE;
         }
 
-        Standing standingBy(int land) {
-            if ((runLands >> land & 1) == 0) {
-                standings[land].run(order, facts);
-                runLands |= 1 << land;
-            }
-            return standings[land];
-        }
-
         /** Parts a thing and answers how it goes. */
         int partThing(int thing) {
             Arrays.fill(parts, 0);
-            int land = laws[thing];
-            Standing standing = standingBy(land);
             int worth = matter.estate.worths[thing];
-            int who = givenTo(standing, thing);
+            int who = givenTo(standings[laws[thing]], thing);
             if (who != NONE) {
                 parts[who] = worth;
                 return GIVEN;
             }
-            return partRest(standing, land, worth);
+            return partLeft(laws[thing], worth);
         }
 
         private int givenTo(Standing standing, int thing) {
@@ -1730,16 +1717,42 @@ public final class WhichWill {
         private boolean isHolding(Paper paper, int gift, int voids) {
             int shut = voids | matter.estate.dead;
             return (shut >> paper.giftTo[gift] & 1) == 0
-                    && paper.isIfSo(gift, matter.estate, facts);
+                    && paper.isIfSo(gift, matter.estate.dead, facts);
         }
 
-        private int partRest(Standing standing, int land, int amount) {
-            int heirs = heirsOfRest(standing);
+        /** Parts what no GIFT takes, as REST or BY KIN, and answers how it goes. */
+        private int partLeft(int land, int amount) {
+            Estate estate = matter.estate;
+            int heirs = heirsOfRest(standings[land]);
             if (heirs != 0) {
                 partEqually(heirs, amount);
                 return AS_REST;
             }
-            return partByKin(land, amount);
+            boolean hasWife = estate.wife >= 0 && !estate.isDead(estate.wife);
+            if (!hasWife && estate.stems == 0) {
+                return TO_NOBODY;
+            }
+            int hers = 0;
+            if (hasWife) {
+                hers = estate.stems == 0 ? amount
+                        : amount * estate.ruleOf(land, Estate.WIFE) / 100;
+                parts[estate.wife] = hers;
+            }
+            partEqually(estate.stems, amount - hers);
+            handDown();
+            return BY_KIN;
+        }
+
+        /** Kin come behind whom they are kin of, so one pass hands all the way down. */
+        private void handDown() {
+            Estate estate = matter.estate;
+            for (int person = 0; person < estate.people.size; person++) {
+                if (estate.isDead(person) && parts[person] > 0) {
+                    int part = parts[person];
+                    parts[person] = 0;
+                    partEqually(estate.kinStems[person], part);
+                }
+            }
         }
 
         private int heirsOfRest(Standing standing) {
@@ -1754,30 +1767,6 @@ public final class WhichWill {
                 }
             }
             return 0;
-        }
-
-        private int partByKin(int land, int amount) {
-            Estate estate = matter.estate;
-            boolean hasWife = estate.wife >= 0 && !estate.isDead(estate.wife);
-            if (!hasWife && estate.stems == 0) {
-                return TO_NOBODY;
-            }
-            int hers = 0;
-            if (hasWife) {
-                hers = estate.stems == 0 ? amount
-                        : amount * estate.ruleOf(land, Estate.WIFE) / 100;
-                parts[estate.wife] += hers;
-            }
-            partEqually(estate.stems, amount - hers);
-            // Kin come behind whom they are kin of, so one pass hands all the way down.
-            for (int person = 0; person < estate.people.size; person++) {
-                if (estate.isDead(person) && parts[person] > 0) {
-                    int part = parts[person];
-                    parts[person] = 0;
-                    partEqually(estate.kinStems[person], part);
-                }
-            }
-            return BY_KIN;
         }
 
         private void partEqually(int heirs, int amount) {
@@ -1803,17 +1792,11 @@ public final class WhichWill {
             return getters;
         }
 
-        boolean goesWholeTo(int thing, int person) {
-            partThing(thing);
-            return parts[person] == matter.estate.worths[thing];
-        }
-
         /** Pays what is PAID and parts the money that is left over. */
         void partMoney() {
             Arrays.fill(parts, 0);
             Arrays.fill(paidTo, 0);
-            Standing standing = standingBy(movesLaw);
-            findPays(standing);
+            findPays(standings[movesLaw]);
             int there = matter.estate.moneyThereIs();
             int all = 0;
             for (int i = 0; i < paysFound; i++) {
@@ -1825,7 +1808,7 @@ public final class WhichWill {
             for (int i = 0; i < paysFound; i++) {
                 paidTo[payees[i]] += pays[i];
             }
-            partRest(standing, movesLaw, Math.max(0, there - all));
+            partLeft(movesLaw, Math.max(0, there - all));
         }
 
         private void findPays(Standing standing) {
@@ -2157,8 +2140,8 @@ public final class WhichWill {
             }
         }
 
+        /** GAIN, by OUTCOMES that were brought up to date. */
         int gainBy(int story) {
-            outcomes.bringUpToDate();
             int ifTrue = 0;
             int ifFalse = 0;
             int ways = matter.waysFound();
@@ -2208,24 +2191,20 @@ public final class WhichWill {
             this.person = person;
             land = matter.estate.lawAndRing(thing) >> 1;
             Arrays.fill(verdicts, UNTRIED);
-            int found = firstEnough();
+            int found = NONE;
+            for (int many = 0; many <= KINDS && found == NONE; many++) {
+                for (int changes = 0; changes < 1 << KINDS && found == NONE; changes++) {
+                    if (Integer.bitCount(changes) == many && isEnough(changes)) {
+                        found = changes;
+                    }
+                }
+            }
             shares.forgetMending();
             return found;
         }
 
-        private int firstEnough() {
-            for (int many = 0; many <= KINDS; many++) {
-                for (int changes = 0; changes < 1 << KINDS; changes++) {
-                    if (Integer.bitCount(changes) == many && isEnough(changes)) {
-                        return changes;
-                    }
-                }
-            }
-            return NONE;
-        }
-
         private boolean isEnough(int changes) {
-            boolean isGood = matter.isGood(paper, land, changes);
+            boolean isGood = matter.papers[paper].isGoodBy(matter.estate, land, changes);
             boolean isUndoingAll = matter.papers[paper].undoesAll || (changes & UNDO_ALL) != 0;
             boolean isLast = (changes & COME_LAST) != 0;
             int which = (isGood ? 1 : 0) + (isUndoingAll ? 2 : 0) + (isLast ? 4 : 0);
@@ -2237,6 +2216,7 @@ public final class WhichWill {
         }
 
         private boolean goesRightInAll(boolean isLast) {
+            int worth = matter.estate.worths[thing];
             int lastPlace = matter.itemsTold() - 1;
             int unused = ~matter.usedFacts() & FACT_ROWS - 1;
             int ways = matter.waysFound();
@@ -2246,8 +2226,9 @@ public final class WhichWill {
                 if (!isLookedAt || (way & unused) != 0) {
                     continue;
                 }
-                shares.takeWay(way);
-                if (!shares.goesWholeTo(thing, person)) {
+                shares.takeWayFor(thing, way);
+                shares.partThing(thing);
+                if (shares.parts[person] != worth) {
                     return false;
                 }
                 isAnyLookedAt = true;
