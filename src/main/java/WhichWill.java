@@ -222,6 +222,7 @@ public final class WhichWill {
         if (!isWay(way) || !isLand(land)) {
             return RANGE;
         }
+        shares.makeReady();
         return shares.standingIn(way, land).counting;
     }
 
@@ -229,6 +230,7 @@ public final class WhichWill {
         if (!isPaper(paper) || !isWay(way) || !isLand(land)) {
             return RANGE;
         }
+        shares.makeReady();
         return shares.standingIn(way, land).undoneBy[paper];
     }
 
@@ -240,6 +242,7 @@ public final class WhichWill {
         if (!isThing(thing) || !isWay(way)) {
             return RANGE;
         }
+        shares.makeReady();
         shares.takeWayFor(thing, way);
         shares.partThing(thing);
         return shares.gettersOfParts();
@@ -249,6 +252,7 @@ public final class WhichWill {
         if (!isThing(thing) || !isWay(way)) {
             return RANGE;
         }
+        shares.makeReady();
         shares.takeWayFor(thing, way);
         return shares.partThing(thing);
     }
@@ -257,6 +261,7 @@ public final class WhichWill {
         if (!isPerson(person) || !isWay(way)) {
             return RANGE;
         }
+        shares.makeReady();
         shares.takeWay(way);
         shares.partMoney();
         return shares.paidTo[person];
@@ -266,6 +271,7 @@ public final class WhichWill {
         if (!isPerson(person) || !isWay(way)) {
             return RANGE;
         }
+        shares.makeReady();
         shares.takeWay(way);
         shares.addUp();
         return shares.sums[person];
@@ -275,6 +281,7 @@ public final class WhichWill {
         if (!isWay(way)) {
             return RANGE;
         }
+        shares.makeReady();
         shares.takeWay(way);
         shares.addUp();
         return shares.shortOfForce();
@@ -296,10 +303,14 @@ public final class WhichWill {
             return RANGE;
         }
         int ways = matter.waysFound();
-        int unused = ~matter.usedFacts();
+        if (ways == 0) {
+            return NONE;
+        }
+        shares.makeReady();
+        int unused = matter.unusedFacts();
         int all = NONE;
         for (int way = 0; way < ways; way++) {
-            if ((way & (FACT_ROWS - 1) & unused) != 0) {
+            if ((way & unused) != 0) {
                 continue;
             }
             shares.takeWayFor(thing, way);
@@ -1342,8 +1353,8 @@ public final class WhichWill {
             return estate.lands.size == 0 ? 0 : ordersFound * FACT_ROWS;
         }
 
-        /** FACTS on which anything told depends, as bits: by the others WAYS do not differ. */
-        int usedFacts() {
+        /** FACTS of which nothing told speaks, as bits: by these WAYS do not differ. */
+        int unusedFacts() {
             int used = 0;
             for (int i = 0; i < papersTold; i++) {
                 used |= papers[i].usedFacts();
@@ -1351,7 +1362,7 @@ public final class WhichWill {
             for (int i = 0; i < eventsTold; i++) {
                 used |= events[i].fact < 0 ? 0 : 1 << events[i].fact;
             }
-            return used;
+            return (FACT_ROWS - 1) & ~used;
         }
 
         int itemAt(int order, int i) {
@@ -1631,6 +1642,13 @@ public final class WhichWill {
             }
         }
 
+        /** To be called ahead of all others when anything may have been told since. */
+        void makeReady() {
+            if (preparedFor != matter.changes) {
+                prepare();
+            }
+        }
+
         /** Runs a WAY that there is by all laws that hold for anything. */
         void takeWay(int way) {
             setWay(way);
@@ -1655,9 +1673,6 @@ public final class WhichWill {
         }
 
         private void setWay(int way) {
-            if (preparedFor != matter.changes) {
-                prepare();
-            }
             order = way / FACT_ROWS;
             facts = way % FACT_ROWS;
         }
@@ -1739,13 +1754,7 @@ public final class WhichWill {
                 parts[estate.wife] = hers;
             }
             partEqually(estate.stems, amount - hers);
-            handDown();
-            return BY_KIN;
-        }
-
-        /** Kin come behind whom they are kin of, so one pass hands all the way down. */
-        private void handDown() {
-            Estate estate = matter.estate;
+            // Kin come behind whom they are kin of, so one pass hands all the way down.
             for (int person = 0; person < estate.people.size; person++) {
                 if (estate.isDead(person) && parts[person] > 0) {
                     int part = parts[person];
@@ -1753,6 +1762,7 @@ public final class WhichWill {
                     partEqually(estate.kinStems[person], part);
                 }
             }
+            return BY_KIN;
         }
 
         private int heirsOfRest(Standing standing) {
@@ -1905,7 +1915,10 @@ public final class WhichWill {
             size = 0;
             Arrays.fill(chains, NONE);
             int ways = matter.waysFound();
-            int unused = ~matter.usedFacts() & FACT_ROWS - 1;
+            if (ways > 0) {
+                shares.makeReady();
+            }
+            int unused = matter.unusedFacts();
             for (int way = 0; way < ways; way++) {
                 if ((way & unused) != 0) {
                     ofWay[way] = ofWay[way & ~unused];
@@ -1923,7 +1936,7 @@ public final class WhichWill {
             for (int person = 0; person < MOST_PEOPLE; person++) {
                 chain = chain * 31 + sums[person];
             }
-            chain = (chain ^ chain >>> 8 ^ chain >>> 16) & CHAINS - 1;
+            chain = (chain ^ (chain >>> 8) ^ (chain >>> 16)) & (CHAINS - 1);
             int outcome = chains[chain];
             for (int i = 0; i < size && outcome != NONE; i++) {
                 if (isRow(outcome, sums)) {
@@ -2218,7 +2231,7 @@ public final class WhichWill {
         private boolean goesRightInAll(boolean isLast) {
             int worth = matter.estate.worths[thing];
             int lastPlace = matter.itemsTold() - 1;
-            int unused = ~matter.usedFacts() & FACT_ROWS - 1;
+            int unused = matter.unusedFacts();
             int ways = matter.waysFound();
             boolean isAnyLookedAt = false;
             for (int way = 0; way < ways; way++) {
