@@ -703,6 +703,51 @@ public final class ModelTest {
 
         // A text with something wrong in it, most of the time.
         String spoil(String s) {
+            return switch (r.nextInt(4)) {
+                case 0 -> otherNumber(s);
+                case 1 -> otherWord(s);
+                case 2 -> moreClauses(s);
+                default -> otherTokens(s);
+            };
+        }
+
+        String otherNumber(String s) {
+            return oneInstead(s, "[0-9]+", pick("0", "1", "2", "3", "4", "5", "90", "91", "100", "101", "9999", "10000", "99999",
+                    "00003", "000003", "100000"));
+        }
+
+        String otherWord(String s) {
+            return oneInstead(s, "[a-z]+", pick("la", "lb", "lc", "ld", "pa", "pb", "pc", "pd", "pe", "ta", "tb", "tc", "fact", "to",
+                    "and", "wife", "abcdefgh", "abcdefghi"));
+        }
+
+        String oneInstead(String s, String like, String by) {
+            List<int[]> found = new ArrayList<>();
+            java.util.regex.Matcher m = java.util.regex.Pattern.compile(like).matcher(s);
+            while (m.find()) found.add(new int[] {m.start(), m.end()});
+            if (found.isEmpty()) return s;
+            int[] at = found.get(r.nextInt(found.size()));
+            return s.substring(0, at[0]) + by + s.substring(at[1]);
+        }
+
+        // Clauses told over again, or of new names, come to TWICE and ROOM.
+        String moreClauses(String s) {
+            List<String> c = new ArrayList<>(Arrays.asList(s.trim().split("\\s*;\\s*")));
+            c.removeIf(String::isEmpty);
+            int many = 1 + r.nextInt(3);
+            for (int i = 0; i < many && !c.isEmpty(); i++) {
+                String one = c.get(r.nextInt(c.size()));
+                int more = 1 + r.nextInt(8);
+                for (int j = 0; j < more; j++) {
+                    String told = one.replaceFirst("^(land|person|thing) \\w+", "$1 n" + (char) ('a' + i) + (char) ('a' + j));
+                    c.add(r.nextInt(c.size() + 1), odds(2) ? told : one.replaceFirst("(give|by|to) [pt][a-h]", "$1 " + pick("pa", "pb", "pc", "pd", "pe", "ta", "tb")));
+                }
+            }
+            String all = join(c);
+            return all.length() > 880 ? all.substring(0, 880) : all;
+        }
+
+        String otherTokens(String s) {
             List<Token> t = new Tokens(s).all;
             t = new ArrayList<>(t.subList(0, t.size() - 1));
             int many = 1 + r.nextInt(2);
@@ -710,9 +755,8 @@ public final class ModelTest {
                 int at = t.isEmpty() ? 0 : r.nextInt(t.size());
                 String w = pick("land", "court", "home", "born", "person", "wife", "child", "kin", "friend", "dead", "thing", "in",
                         "money", "owed", "seen", "hand", "pencil", "gain", "void", "gift", "made", "signed", "by", "give", "pay",
-                        "rest", "to", "and", "undo", "paper", "again", "with", "if", "fact", "not", "alive", ";", ";", "0", "1", "3", "4",
-                        "99999", "100000", "9999", "10000", "00001", "000001", "abcdefgh", "abcdefghi", "A", "\u0000", ".", "pa", "pb",
-                        "la", "lb", "ta", "tb", "\u00ff", "\t");
+                        "rest", "to", "and", "undo", "paper", "again", "with", "if", "fact", "not", "alive", ";", ";", "0", "1",
+                        "99999", "abcdefgh", "abcdefghi", "A", "\u0000", ".", "pa", "pb", "la", "lb", "ta", "tb", "\u00ff", "\t");
                 int kind = r.nextInt(4);
                 if (kind == 0 || t.isEmpty()) t.add(at, new Token(w, 0));
                 else if (kind == 1) t.set(at, new Token(w, 0));
@@ -720,10 +764,8 @@ public final class ModelTest {
                 else t.add(at, t.get(r.nextInt(t.size())));
             }
             StringBuilder b = new StringBuilder();
-            for (Token k : t) b.append(k.text()).append(odds(12) ? "" : pick(" ", "\n", "  "));
+            for (Token k : t) b.append(k.text()).append(odds(150) ? "" : pick(" ", "\n", "  "));
             if (odds(6)) b.setLength(r.nextInt(b.length() + 1));
-            // Clauses told over again come to TWICE and ROOM.
-            if (odds(4)) b.append(b);
             if (b.length() > 880) b.setLength(880);
             return b.toString();
         }
