@@ -1066,9 +1066,14 @@ public final class ModelTest {
     static void wholeRuns(int seed, int runs) {
         Random r = new Random(seed);
         Maker k = new Maker(r);
+        WhichWill x = new WhichWill();
+        Model m = new Model();
         for (int i = 0; i < runs; i++) {
-            WhichWill x = new WhichWill();
-            Model m = new Model();
+            // Half of the ESTATES come behind another one, of which nothing may be left.
+            if (r.nextBoolean()) {
+                x = new WhichWill();
+                m = new Model();
+            }
             tellEstate(x, m, k.estate());
             int most = r.nextInt(12) == 0 ? 7 : 1 + r.nextInt(5);
             for (int j = 0; j < most; j++) {
@@ -1100,11 +1105,50 @@ public final class ModelTest {
         }
     }
 
+    // Many unlike OUTCOMES: all papers good, most gifts by facts, few undone.
+    static void richRuns(int seed, int runs) {
+        Random r = new Random(seed);
+        Maker k = new Maker(r);
+        WhichWill x = new WhichWill();
+        for (int i = 0; i < runs; i++) {
+            Model m = new Model();
+            StringBuilder b = new StringBuilder("land a seen 0 wed part tear wake lost gain " + k.pick("void", "gift")
+                    + " house there; land b seen 0 part wake; money " + r.nextInt(99999) + ";");
+            for (int p = 0; p < 8; p++) b.append("person p" + (char) ('a' + p) + " " + (p == 0 ? "wife" : k.pick("child", "friend", "kin pa")) + ";");
+            for (int t = 0; t < 6; t++) b.append("thing t" + (char) ('a' + t) + " " + (1 + r.nextInt(9999)) + k.pick(" in b;", ";"));
+            tellEstate(x, m, b.toString());
+            for (int q = 0; q < 4; q++) {
+                StringBuilder c = new StringBuilder("signed;");
+                int gifts = k.odds(3) ? 8 : 5;
+                List<String> things = new ArrayList<>(m.e.things);
+                java.util.Collections.shuffle(things, r);
+                for (int g = 0; g < gifts; g++) {
+                    c.append(g < 4 ? "give " + things.remove(0) : "pay " + (1 + r.nextInt(30000))).append(" to ").append(k.of(m.e.people));
+                    c.append(k.odds(4) ? "" : " if fact " + r.nextInt(3) + k.pick("", " not")).append(';');
+                }
+                if (k.odds(2)) c.append("rest to " + k.of(m.e.people) + ";");
+                if (k.odds(3)) c.append("by " + k.of(m.e.people) + ";");
+                if (q > 0 && k.odds(3)) c.append("undo paper " + r.nextInt(q) + ";");
+                if (q > 0 && k.odds(4)) c.append("again " + r.nextInt(q) + ";");
+                if (k.odds(3)) c.append("made " + r.nextInt(5) + " " + (5 + r.nextInt(9)) + ";");
+                tellPaper(x, m, c.toString());
+            }
+            addEvents(x, m, r, 1);
+            if (m.orders.size() <= 30) addEvents(x, m, r, 1);
+            addStories(x, m, r, 6);
+            compareSure(x, m);
+            compareStories(x, m);
+            compareSettling(x, m, r);
+            for (int j = 0; j < 12; j++) compareWay(x, m, r.nextInt(m.ways()));
+        }
+    }
+
     public static void main(String[] args) {
         int times = args.length > 0 ? Integer.parseInt(args[0]) : 1;
         for (int seed = 1; seed <= times; seed++) {
             faultRuns(seed, 400);
             wholeRuns(1000 + seed, 150);
+            richRuns(2000 + seed, 12);
         }
         System.out.println(compared + " answers compared, " + wrong + " not as due");
         if (wrong != 0) System.exit(1);

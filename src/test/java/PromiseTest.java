@@ -157,6 +157,7 @@ public final class PromiseTest {
         for (int i = 0; i < 8; i++) {
             b.append("person p").append((char) ('a' + i)).append(" friend;thing t").append((char) ('a' + i)).append(" 9999;");
         }
+        due("letters from a to z", estate(x, "land azbz; land az; court azbz;"), 3);
         due("all there is room for", estate(x, b.toString()), 20);
         due("people", x.told(1), 8);
     }
@@ -231,6 +232,7 @@ public final class PromiseTest {
         badEstate("land a; born a; born 1;", 3, 16);
         badEstate("owed 1; owed 1;", 3, 8);
         badEstate("land a gain void gain gift;", 3, 17);
+        badEstate("land a seen 0 hand pencil gain gift wed part tear wake lost wife 1 force 1 house own move own hand;", 3, 94);
         badEstate("land a house own move own house own;", 3, 26);
         badEstate("land a;land b;land c;land d;land a;", 4, 28);
         badEstate("land a;land b;land c;land d;land", 4, 28);
@@ -545,6 +547,14 @@ public final class PromiseTest {
         due("by the last that undid it", x.undone(0, 0, 0), 3);
         x.event(2, 3, 6, 6, NONE);
         due("awake", x.undone(0, 0, 0), NONE);
+        // Two partings: what was void by the first stays so, whatever stands at the second.
+        x = desk("land a seen 0 wake part; person w wife; person c child; thing t 3;", "made 1 1; signed; give t to w;",
+                "made 3 3; signed; undo;");
+        x.event(1, 0, 2, 2, NONE);
+        x.event(1, 0, 4, 4, NONE);
+        x.event(2, 1, 5, 5, NONE);
+        due("awake", x.counts(0, 0), 1);
+        due("and void", x.goes(0, 0), 3);
         due("with in a row", desk("land a seen 0;", "", "signed; with 0;", "signed; with 1;").counts(0, 0), 0);
     }
 
@@ -612,6 +622,11 @@ public final class PromiseTest {
         due("behind it", x.goes(1, 2), 2);
         due("given ahead of it: void", x.goes(0, 2), 2);
         due("given behind it: not", x.goes(0, 3), 1);
+        x = desk("land a seen 1 part gain gift; person w wife; person c child; person f friend; thing t 9;",
+                "made 0 0; signed; by f; rest to w and f;");
+        x.event(1, 0, 5, 5, NONE);
+        promise = 21;
+        due("void for both", x.how(0, 0), 2);
         x = desk("land a seen 0; person w wife; thing t 9;", "made 0 0; signed; give t to w;");
         x.event(1, 0, 5, 5, NONE);
         promise = 21;
@@ -649,6 +664,13 @@ public final class PromiseTest {
         due("nobody", x.sum(4, 0), RANGE);
         due("no way", x.sum(0, -1), RANGE);
         promise = 22;
+        x = desk("land a seen 0; person p friend; money 36;", "signed; pay 1 to p; pay 2 to p; pay 3 to p; pay 4 to p;"
+                + "pay 5 to p; pay 6 to p; pay 7 to p; pay 8 to p if fact 2;");
+        due("eight gifts", x.paid(0, 4), 36);
+        due("seven of them", x.paid(0, 3), 28);
+        promise = 27;
+        due("what is not paid is lost to p", x.hangs(2), 1);
+        promise = 22;
         x = desk("land a seen 0; person p friend; money 99999; owed 0;", "signed; pay 99999 to p; pay 99999 to p; pay 99999 to p;");
         due("great sums", x.paid(0, 0), 99999);
         x = desk("land a seen 0; person p friend; money 5; owed 6;", "signed; pay 3 to p;");
@@ -663,6 +685,7 @@ public final class PromiseTest {
         due("short: 90 in a hundred of 91, less 11", x.lack(0), 81 - 11);
         due("no way", x.lack(8), RANGE);
         due("no way", x.lack(-1), RANGE);
+        due("by another law than the first", desk("land a; land b force 50; court b; money 21;").lack(0), 10);
         due("not short", desk("land a force 90; person c child; money 20;").lack(0), 0);
         due("nobody to be short", desk("land a force 50; money 21;").lack(0), 10);
     }
@@ -691,6 +714,8 @@ public final class PromiseTest {
         due("no thing", x.surely(-1), RANGE);
         due("no ways", desk("thing t 1;").surely(0), NONE);
         due("to nobody, surely", desk("land a; thing t 1;").surely(0), 0);
+        due("by another law than the first", desk("land a; land b seen 0; court b; person p child; person q friend; thing t 2;",
+                "signed; rest to q;").surely(0), 2);
         due("to two, surely", desk("land a; person p child; person q child; thing t 2;").surely(0), 3);
         promise = 27;
         due("hangs", x.hangs(0), 1);
@@ -787,6 +812,14 @@ public final class PromiseTest {
         due("no story comes first", x.gain(1), -1000000);
         promise = 32;
         due("no ways", x.stories(0), NONE);
+        // A story of event 0 stays one of event 0, when a paper more moves it.
+        x = desk("land a; person p friend;", "made 5 5;");
+        x.event(0, 0, 9, 9, NONE);
+        x.tells(0, 0, 1);
+        paper(x, "made 1 1;");
+        promise = 31;
+        due("event 0 came behind paper 0", x.stories(0), 0);
+        promise = 33;
         x = desk("land a seen 0; person p friend; thing t 7;", "made 0 0; signed; give t to p;", "made 1 1;");
         x.tells(0, 1, 0);
         x.tells(0, 0, 1);
