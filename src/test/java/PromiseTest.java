@@ -679,6 +679,10 @@ public final class PromiseTest {
         x = desk("land a seen 0 wife 10; person w wife; person c child; money 99;");
         due("money by kin, cut", x.sum(0, 0), 9);
         due("the other part", x.sum(1, 0), 90);
+        String elsewhere = "land a; land b seen 0; court b; person p friend; money 5;";
+        due("by another law than the first", desk(elsewhere, "signed; rest to p;").sum(0, 0), 5);
+        promise = 22;
+        due("by another law than the first", desk(elsewhere, "signed; pay 4 to p;").paid(0, 0), 4);
         promise = 24;
         x = desk("land a seen 0 force 33 move home; land b force 90 seen 0; home b; person p friend; person c child; person k kin p; money 20; owed 9; thing t 80;",
                 "signed; give t to p; pay 5 to k; rest to c;");
