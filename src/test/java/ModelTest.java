@@ -782,16 +782,8 @@ public final class ModelTest {
     }
 
     static void type(WhichWill x, String s) {
-        x.end(0);
-        for (int i = 0; i < s.length(); i += 20) {
-            int[] v = new int[5];
-            for (int k = 0; k < 20; k++) {
-                int c = i + k < s.length() ? s.charAt(i + k) : 0;
-                v[k / 4] |= c << 24 - 8 * (k % 4);
-            }
-            x.feed(v[0], v[1], v[2], v[3], v[4]);
-        }
-        due("end", x.end(s.length()), s.length());
+        Telling.type(x, s);
+        due("tape", x.count(3), s.length());
     }
 
     static void tellEstate(WhichWill x, Model m, String s) {

@@ -15,31 +15,19 @@ public final class PromiseTest {
     }
 
     private static void type(WhichWill x, String s) {
-        x.end(0);
-        for (int i = 0; i < s.length(); i += 20) {
-            int[] v = new int[5];
-            for (int k = 0; k < 20; k++) {
-                int c = i + k < s.length() ? s.charAt(i + k) : 0;
-                v[k / 4] |= c << 24 - 8 * (k % 4);
-            }
-            x.feed(v[0], v[1], v[2], v[3], v[4]);
-        }
-        x.end(s.length());
+        Telling.type(x, s);
     }
 
     private static int estate(WhichWill x, String s) {
-        type(x, s);
-        return x.estate();
+        return Telling.estate(x, s);
     }
 
     private static int paper(WhichWill x, String s) {
-        type(x, s);
-        return x.paper();
+        return Telling.paper(x, s);
     }
 
     private static int settle(WhichWill x, String s) {
-        type(x, s);
-        return x.settle();
+        return Telling.settle(x, s);
     }
 
     /** An object with an ESTATE and PAPERS, all without a FAULT. */
