@@ -1136,7 +1136,7 @@ public final class ModelTest {
     }
 
     public static void main(String[] args) {
-        int times = args.length > 0 ? Integer.parseInt(args[0]) : 1;
+        int times = args.length > 0 ? Integer.parseInt(args[0]) : 8;
         for (int seed = 1; seed <= times; seed++) {
             faultRuns(seed, 400);
             wholeRuns(1000 + seed, 150);

@@ -111,6 +111,12 @@ public final class SureBoundsTest {
         desk = Due.desk("land a seen 0; person p friend; money 9;", "signed; pay 1 to p if fact 0; pay 1 to p if fact 1; pay 2 to p if fact 2;");
         Due.is("0 to 4", desk.outcomes(), 5);
         // Sums that a short mark of a row could take for alike.
+        for (int i = 0; i < 8; i++) {
+            for (int pay : new int[] {1, 31, 256, 257, 65536, 65537, 65793}) {
+                desk = Due.desk("land a seen 0;" + Due.clauses(8, "person # friend;") + "money 99999;", "signed; pay " + pay + " to " + (char) ('a' + i) + " if fact 2;");
+                Due.is("two, by " + pay + " to person " + i, desk.outcomes(), 2);
+            }
+        }
         desk = Due.desk("land a seen 0; person p friend; person q friend; money 99;", "signed; pay 31 to q if fact 0; pay 1 to p if fact 0 not;");
         Due.is("two that are near", desk.outcomes(), 2);
         manyOutcomes();
@@ -305,6 +311,12 @@ public final class SureBoundsTest {
         Due.is("one", desk.gain(0), 1);
         Due.is("less one, and no NONE", desk.gain(1), -1);
         Due.is("neither", desk.gain(2), 0);
+        WhichWill first = Due.desk("land a seen 0; person p friend; money 9;", "signed; pay 1 to p if fact 0 not; pay 1 to p if fact 1 not; pay 1 to p if fact 2 not;");
+        first.says(0, 0, 0);
+        Due.is("by the first way alone", first.gain(0), 3 - 2);
+        WhichWill last = Due.desk("land a seen 0; person p friend; money 9;", "signed; pay 1 to p if fact 0; pay 1 to p if fact 1; pay 1 to p if fact 2;");
+        last.says(0, 0, 1);
+        Due.is("by the last way alone", last.gain(0), 3 - 2);
         Due.sentence("Promise 33", "NONE: there are no WAYS; RANGE (-1000000)");
         for (int story : new int[] {-2, -1, 3, 4, 8}) {
             Due.is("gain " + story, desk.gain(story), NO_STORY);
@@ -406,6 +418,7 @@ public final class SureBoundsTest {
         Due.is("last, on the one day that both have", mended("seen 0", "made 1 5; signed; give t to p;", "made 5 9; signed; give t to q;"), 32);
         Due.is("never last", mended("seen 0", "made 1 4; signed; give t to p;", "made 5 9; signed; give t to q;"), NONE);
         Due.is("undo and last", mended("seen 0", "signed; rest to p;", "signed; give t to q;"), 48);
+        Due.is("signed and undo", mended("seen 0", "made 5 5; rest to p;", "made 1 1; signed; give t to q;"), 1 + 16);
         Due.is("five with a witness", mended("seen 1", "pencil; rest to p;", "signed; by c; give t to q;"), 1 + 4 + 8 + 16 + 32);
         Due.is("five by hand, the lesser", mended("seen 1 hand", "pencil; rest to p;", "signed; by c; give t to q;"), 1 + 2 + 4 + 16 + 32);
         Due.is("not five but four", mended("seen 0", "pencil; rest to p;", "signed; give t to q;"), 1 + 4 + 16 + 32);

@@ -144,6 +144,11 @@ public final class TextBoundsTest {
         Due.badEstate(UNKNOWN, "land abcdefgh; court ^abcdefgg;");
         Due.badEstate(UNKNOWN, "land abcdefgh; court ^bbcdefgh;");
         Due.badEstate(UNKNOWN, "land aa; court ^a;");
+        Due.badEstate(UNKNOWN, "land a; court ^aa;");
+        // Names that are near to one another are still others.
+        Due.is("four", Due.desk("land b; land bb; land aq; land ba; court ba;").told(7), 3);
+        Due.is("four", Due.desk("land aaaaaaaa; land zaaaaaaa; land aaaaaaaz; land aaaaaaa; court aaaaaaa;").told(7), 3);
+        Due.is("four", Due.desk("land az; land ba; land za; land zz; court ba;").told(7), 1);
         for (char odd : new char[] {'`', '{', 'A', 'Z', '@', '[', 'a' + 128, 'z' + 128}) {
             Due.badEstate(SYNTAX, "land ^" + odd + ";");
             Due.badEstate(SYNTAX, "land a^" + odd + ";");

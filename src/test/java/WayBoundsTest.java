@@ -357,6 +357,22 @@ public final class WayBoundsTest {
         Due.is("what comes behind stands", none.counts(0, 0), 3);
         Due.is("what is not GOOD undoes nothing", Due.desk("land a seen 0;", "made 1 1; signed;", "made 2 2; undo;").counts(0, 0), 1);
         Due.is("never stood", none.undone(0, 0, 0), NONE);
+        Due.sentence("Terms II", "if the PAPER STANDS, it is UNDONE by that, and by a law with wake those STAND again that are UNDONE by that PAPER");
+        String[] chain = {"made 1 1; signed;", "made 2 2; signed; undo paper 0;", "made 3 3; signed; undo paper 1;"};
+        WhichWill wake = Due.desk("land a seen 0 wake tear lost;", chain);
+        for (int kind = 2; kind <= 4; kind++) {
+            Due.is("torn when it does not stand", wake.event(kind, 1, 4, 4, NONE), kind - 2);
+            Due.is("wakes none", wake.counts(0, 0), 4);
+            Due.is("undone as it was", wake.undone(0, 0, 0), 1);
+            Due.is("undone as it was", wake.undone(1, 0, 0), 2);
+        }
+        wake = Due.desk("land a seen 0 wake;", chain);
+        Due.is("the one that stands", wake.event(2, 2, 4, 4, NONE), 0);
+        Due.is("wakes what it undid alone", wake.counts(0, 0), 2);
+        Due.is("the one that is awake", wake.event(2, 1, 5, 5, NONE), 1);
+        Due.is("wakes what that undid", wake.counts(0, 0), 1);
+        Due.is("ahead of all", wake.event(2, 0, 0, 0, NONE), 2);
+        Due.is("does nothing", wake.counts(0, 0), 1);
         Due.sentence("Terms II", "a PAPER COUNTS, if it STANDS, and, if it is with another one, that COUNTS, too");
         Due.is("all three", Due.desk("land a seen 0;", "signed;", "signed; with 0;", "signed; with 1;").counts(0, 0), 7);
         Due.is("the first does not", Due.desk("land a seen 0;", "", "signed; with 0;", "signed; with 1;", "signed;").counts(0, 0), 8);
@@ -498,6 +514,12 @@ public final class WayBoundsTest {
             Due.is("first" + call, desk.paid(0, 0), row[3]);
             Due.is("second" + call, desk.paid(1, 0), row[4]);
             Due.is("left" + call, desk.sum(2, 0), row[0] - row[3] - row[4]);
+        }
+        for (int there = 0; there <= 2; there++) {
+            for (int pay = 1; pay <= 3; pay++) {
+                WhichWill one = Due.desk("land a seen 0; person p friend; money " + there + ";", "signed; pay " + pay + " to p;");
+                Due.is("one of " + pay + " by " + there, one.paid(0, 0), Math.min(pay, there));
+            }
         }
         WhichWill none = Due.desk("land a seen 0; person p friend; money 5;", "signed;");
         Due.is("no pays", none.paid(0, 0), 0);
